@@ -83,8 +83,8 @@ public final class CornerDesk {
         return 0;
     }
 
-    // The points with the greatest value are a corner or a side of the region,
-    // and the end of a side that the tie rule picks is a corner too.
+    // The points with the greatest value are a corner, a side or (aim 0, 0) all of the
+    // region; the one of them that the tie rule picks is always a corner.
     public int best(int p, int q) {
         if (!isWithin(p, COEFFICIENT_LIMIT) || !isWithin(q, COEFFICIENT_LIMIT)) {
             return -1;

@@ -235,7 +235,8 @@ public final class ModelTest {
         int b = pick(-reach, reach) * (stray ? 5 : 1);
         int c = pick(-farthest, farthest) * (stray ? 2 : 1);
         String abc = "(" + a + ", " + b + ", " + c + ")";
-        switch (pick(0, 13)) {
+        int which = pick(-1, 3);
+        switch (pick(0, 14)) {
             case 0, 1, 2, 3 -> due(object, "add" + abc, desk.add(a, b, c), model.add(a, b, c));
             case 4 -> due(object, "push", desk.push(), model.push());
             case 5, 6 -> due(object, "pop", desk.pop(), model.pop());
@@ -243,11 +244,8 @@ public final class ModelTest {
             case 8, 9 -> due(object, "best" + abc, desk.best(a, b), model.best(a, b));
             case 10, 11 -> due(object, "test" + abc, desk.test(a, b, c), model.test(a, b, c));
             case 12 -> SPARE_SEEN[due(object, "spare", desk.spare(), model.spare())]++;
-            default -> {
-                int which = pick(-1, 3);
-                due(object, "numerator " + which, desk.numerator(which), model.numerator(which));
-                due(object, "denominator " + which, desk.denominator(which), model.denominator(which));
-            }
+            case 13 -> due(object, "numerator " + which, desk.numerator(which), model.numerator(which));
+            default -> due(object, "denominator " + which, desk.denominator(which), model.denominator(which));
         }
     }
 
